@@ -32,8 +32,7 @@ public final class DustYard {
     private final Law lawDraft;
     private final Law lawKept;
     private final Memory memory;
-    private final YardReader yardReader;
-    private final LawReader lawReader;
+    private final Reader reader;
     private final Rounds rounds;
     private final Deals deals;
     private final Guesses guesses;
@@ -49,8 +48,7 @@ public final class DustYard {
         lawDraft = new Law();
         lawKept = new Law();
         memory = new Memory();
-        yardReader = new YardReader(tape, draft);
-        lawReader = new LawReader(tape, lawDraft);
+        reader = new Reader(tape, draft, lawDraft);
         rounds = new Rounds();
         deals = new Deals();
         guesses = new Guesses();
@@ -78,8 +76,8 @@ public final class DustYard {
 
     public int yard() throws IllegalArgumentException, UnsupportedOperationException {
         draft.copyFrom(now);
-        boolean right = yardReader.reads();
-        wrongByte = right ? NONE : tape.nextThing();
+        boolean right = reader.readsYard();
+        wrongByte = right ? NONE : tape.wrongAt();
         tape.clear();
         if (!right) {
             throw new IllegalArgumentException("the text of the yard is wrong");
@@ -95,8 +93,8 @@ public final class DustYard {
     }
 
     public int law() throws IllegalArgumentException {
-        boolean right = lawReader.reads();
-        wrongByte = right ? NONE : tape.nextThing();
+        boolean right = reader.readsLaw();
+        wrongByte = right ? NONE : tape.wrongAt();
         tape.clear();
         if (!right) {
             throw new IllegalArgumentException("the text of the law is wrong");
@@ -783,14 +781,22 @@ public final class DustYard {
         return best;
     }
 
-    /** The TAPE, and a place on it up to which a text has been read. */
+    /** The TAPE, and the things of the text on it: words, numbers and signs, read one after another. */
     private static final class Tape {
         static final int FEED_BYTES = 20;
         static final int MOST_DIGITS = 3;
+        static final int BLANK = 0;
+        static final int LETTER = 1;
+        static final int DIGIT = 2;
+        static final int SIGN = 3;
 
         final int[] bytes = new int[TAPE_BYTES];
+        // Behind the last thing stands one of no length at the text's end: what is wrong there is its length.
+        final int[] begins = new int[TAPE_BYTES + 1];
+        final int[] ends = new int[TAPE_BYTES + 1];
         int size;
-        int place;
+        int things;
+        int next;
 
         boolean hasRoom() {
             return size + FEED_BYTES <= TAPE_BYTES;
@@ -815,93 +821,101 @@ public final class DustYard {
             size = 0;
         }
 
-        void rewind() {
-            place = 0;
+        void partIntoThings() {
+            next = 0;
+            things = 0;
+            int before = BLANK;
+            for (int at = 0; at < size; at++) {
+                int kind = kindOf(bytes[at]);
+                boolean goesOn = kind == before && (kind == LETTER || kind == DIGIT);
+                if (goesOn && things > 0) {
+                    ends[things - 1] = at + 1;
+                } else if (kind != BLANK) {
+                    begins[things] = at;
+                    ends[things] = at + 1;
+                    things++;
+                }
+                before = kind;
+            }
+            begins[things] = size;
+            ends[things] = size;
         }
 
-        /** Where the next thing begins, or the text's length: what fails stays there, so it is the first wrong byte. */
-        int nextThing() {
-            while (place < size && bytes[place] == ' ') {
-                place++;
+        private static int kindOf(int sign) {
+            if (sign == ' ') {
+                return BLANK;
             }
-            return place;
+            if (sign >= 'a' && sign <= 'z') {
+                return LETTER;
+            }
+            return sign >= '0' && sign <= '9' ? DIGIT : SIGN;
+        }
+
+        /** Nothing is stepped over that cannot stand there, so the next thing is the first wrong one. */
+        int wrongAt() {
+            return begins[next];
         }
 
         boolean atEnd() {
-            return nextThing() >= size;
+            return next >= things;
         }
 
-        /** Goes back to the begin of a thing that was read, but cannot stand there. */
-        boolean refuse(int begin) {
-            place = begin;
+        /** Takes the latest thing back, as it cannot stand there after all. */
+        boolean refuse() {
+            next = Math.max(0, next - 1);
             return false;
         }
 
         boolean takesSign(char sign) {
-            if (atEnd() || bytes[place] != sign) {
+            if (next >= things || bytes[begins[next]] != sign) {
                 return false;
             }
-            place++;
+            next++;
             return true;
         }
 
         boolean takesWord(String word) {
-            int begin = nextThing();
-            int length = word.length();
-            if (runOf(begin, 'a', 'z') != length) {
+            int begin = begins[next];
+            if (ends[next] - begin != word.length()) {
                 return false;
             }
-            for (int i = 0; i < length; i++) {
+            for (int i = 0; i < word.length(); i++) {
                 if (bytes[begin + i] != word.charAt(i)) {
                     return false;
                 }
             }
-            place = begin + length;
+            next++;
             return true;
-        }
-
-        boolean seesNumber() {
-            return runOf(nextThing(), '0', '9') > 0;
         }
 
         /** The number that comes, or NONE if there is none from least to greatest. */
         int takeNumber(int least, int greatest) {
-            int begin = nextThing();
-            int digits = runOf(begin, '0', '9');
+            int digits = ends[next] - begins[next];
             if (digits < 1 || digits > MOST_DIGITS) {
                 return NONE;
             }
             int value = 0;
-            for (int i = 0; i < digits; i++) {
-                value = 10 * value + figureAt(begin + i);
+            for (int at = begins[next]; at < ends[next]; at++) {
+                if (kindOf(bytes[at]) != DIGIT) {
+                    return NONE;
+                }
+                value = 10 * value + bytes[at] - '0';
             }
             if (value < least || value > greatest) {
                 return NONE;
             }
-            place = begin + digits;
+            next++;
             return value;
         }
 
         /** Where just so many figures begin, or NONE. */
         int takeFigures(int many) {
-            int begin = nextThing();
-            if (runOf(begin, '0', '9') != many) {
+            int begin = begins[next];
+            if (many < 1 || ends[next] - begin != many || kindOf(bytes[begin]) != DIGIT) {
                 return NONE;
             }
-            place = begin + many;
+            next++;
             return begin;
-        }
-
-        int figureAt(int at) {
-            return at >= 0 && at < size ? bytes[at] - '0' : 0;
-        }
-
-        private int runOf(int begin, char first, char last) {
-            int at = begin;
-            while (at < size && bytes[at] >= first && bytes[at] <= last) {
-                at++;
-            }
-            return at - begin;
         }
     }
 
@@ -1022,8 +1036,8 @@ public final class DustYard {
 
         int loadOf(int street) {
             int all = 0;
-            for (int grain = 1; grain <= GRAINS; grain++) {
-                all += mixOf(street, grain);
+            for (int i = street * GRAINS; i < (street + 1) * GRAINS; i++) {
+                all += mixRows[i];
             }
             return all;
         }
@@ -1283,9 +1297,10 @@ public final class DustYard {
         final int[] amounts = new int[LINES];
         final int[] begins = new int[LINES];
         final int[] ends = new int[LINES];
-        // No op is shorter than a byte of the text, and none puts more than one number upon the stack.
+        // No op has less than a byte of the text.
         final int[] code = new int[TAPE_BYTES];
-        final int[] stack = new int[TAPE_BYTES];
+        // Two wait for an or and an and on each level within a (, three in a comparison: some seventeen.
+        final int[] stack = new int[32];
 
         void copyFrom(Law other) {
             lines = other.lines;
@@ -1303,7 +1318,7 @@ public final class DustYard {
         }
 
         void emit(int op, int value) {
-            if (used < TAPE_BYTES) {
+            if (op != NONE && used < TAPE_BYTES) {
                 code[used] = value << OP_BITS | op;
                 used++;
             }
@@ -1320,18 +1335,19 @@ public final class DustYard {
         }
 
         int fillsOf(State state, int street) {
-            int more = sumOf(MORE_LINE, state, street);
-            return Math.max(0, 1 + more - sumOf(LESS_LINE, state, street));
+            int sum = 1;
+            for (int line = 0; line < lines; line++) {
+                if (kinds[line] != TOLL_LINE && holds(line, state, street)) {
+                    sum += kinds[line] == MORE_LINE ? amounts[line] : -amounts[line];
+                }
+            }
+            return Math.max(0, sum);
         }
 
         int tollOf(State state, int street) {
-            return sumOf(TOLL_LINE, state, street);
-        }
-
-        private int sumOf(int kind, State state, int street) {
             int sum = 0;
             for (int line = 0; line < lines; line++) {
-                if (kinds[line] == kind && holds(line, state, street)) {
+                if (kinds[line] == TOLL_LINE && holds(line, state, street)) {
                     sum += amounts[line];
                 }
             }
@@ -1342,7 +1358,7 @@ public final class DustYard {
             int top = 0;
             for (int i = begins[line]; i < ends[line]; i++) {
                 int op = code[i] & OP_MASK;
-                if (op < NOT) {
+                if (op < NOT && top < stack.length) {
                     stack[top] = op == NUMBER ? code[i] >> OP_BITS : valueOf(op, state, street);
                     top++;
                 } else if (op == NOT && top >= 1) {
@@ -1469,25 +1485,38 @@ public final class DustYard {
         }
     }
 
-    /** Reads a text of THE YARD into a draft, of which nothing stays if the text is wrong. */
-    private static final class YardReader {
-        static final int LINES = 14;
+    /** Reads a text of THE YARD or of THE LAW into a draft, of which nothing stays if the text is wrong. */
+    private static final class Reader {
+        static final int YARD_LINES = 14;
+        static final int DEEPEST = 6;
 
         final Tape tape;
-        final State draft;
+        final State yardDraft;
+        final Law lawDraft;
 
-        YardReader(Tape tape, State draft) {
+        Reader(Tape tape, State yardDraft, Law lawDraft) {
             this.tape = tape;
-            this.draft = draft;
+            this.yardDraft = yardDraft;
+            this.lawDraft = lawDraft;
         }
 
-        boolean reads() {
-            tape.rewind();
+        boolean readsYard() {
+            return readsLines(YARD_LINES, false);
+        }
+
+        boolean readsLaw() {
+            lawDraft.clear();
+            return readsLines(Law.LINES, true);
+        }
+
+        private boolean readsLines(int most, boolean ofLaw) {
+            tape.partIntoThings();
             if (tape.atEnd()) {
                 return true;
             }
-            for (int line = 0; line < LINES; line++) {
-                if (!readsLine()) {
+            for (int line = 0; line < most; line++) {
+                boolean right = ofLaw ? readsLawLine() : readsYardLine();
+                if (!right) {
                     return false;
                 }
                 if (tape.atEnd()) {
@@ -1500,29 +1529,28 @@ public final class DustYard {
             return false;
         }
 
-        private boolean readsLine() {
-            int begin = tape.nextThing();
+        private boolean readsYardLine() {
             if (tape.takesWord("street")) {
-                return draft.streets < STREETS ? readsStreet() : tape.refuse(begin);
+                return yardDraft.streets < STREETS ? readsStreet() : tape.refuse();
             }
             if (tape.takesWord("cart")) {
-                return draft.carts < CARTS ? readsCart() : tape.refuse(begin);
+                return yardDraft.carts < CARTS ? readsCart() : tape.refuse();
             }
             if (tape.takesWord("sieve")) {
-                return draft.sieves < SIEVES ? readsSieve() : tape.refuse(begin);
+                return yardDraft.sieves < SIEVES ? readsSieve() : tape.refuse();
             }
             if (tape.takesWord("contract")) {
-                return draft.contracts < CONTRACTS ? readsContract() : tape.refuse(begin);
+                return yardDraft.contracts < CONTRACTS ? readsContract() : tape.refuse();
             }
-            return readsOneThing();
+            if (tape.takesWord("heap")) {
+                return readsHeap();
+            }
+            return readsOneNumber();
         }
 
         private boolean readsStreet() {
-            if (!tape.takesWord("at")) {
-                return false;
-            }
-            int x = tape.takeNumber(0, 9);
-            int y = x == NONE ? NONE : tape.takeNumber(0, 9);
+            int x = tape.takesWord("at") ? tape.takeNumber(0, 9) : NONE;
+            int y = x != NONE ? tape.takeNumber(0, 9) : NONE;
             if (y == NONE || !tape.takesWord("mix")) {
                 return false;
             }
@@ -1534,9 +1562,9 @@ public final class DustYard {
             if (waits == NONE) {
                 return false;
             }
-            int street = draft.addStreet(x, y, waits);
+            int street = yardDraft.addStreet(x, y, waits);
             for (int grain = 1; grain <= GRAINS && street != NONE; grain++) {
-                draft.setMix(street, grain, tape.figureAt(figures + grain - 1));
+                yardDraft.setMix(street, grain, tape.bytes[figures + grain - 1] - '0');
             }
             return true;
         }
@@ -1547,12 +1575,12 @@ public final class DustYard {
                 return false;
             }
             int goes = tape.takeNumber(1, 99);
-            return goes != NONE && draft.addCart(hold, goes) != NONE;
+            return goes != NONE && yardDraft.addCart(hold, goes) != NONE;
         }
 
         private boolean readsSieve() {
             int mesh = tape.takeNumber(2, GRAINS);
-            return mesh != NONE && draft.addSieve(mesh) != NONE;
+            return mesh != NONE && yardDraft.addSieve(mesh) != NONE;
         }
 
         private boolean readsContract() {
@@ -1569,102 +1597,56 @@ public final class DustYard {
                 return false;
             }
             int pays = tape.takeNumber(0, 9);
-            return pays != NONE && draft.addContract(low, high, many, pays) != NONE;
-        }
-
-        private boolean readsOneThing() {
-            if (tape.takesWord("smoke")) {
-                draft.smoke = true;
-                return true;
-            }
-            if (tape.takesWord("heap")) {
-                return readsHeap();
-            }
-            // A number that is wrong may stand in the draft, as nothing of it stays then.
-            if (tape.takesWord("fire")) {
-                draft.fire = tape.takeNumber(0, 100);
-                return draft.fire != NONE;
-            }
-            if (tape.takesWord("rats")) {
-                draft.rats = tape.takeNumber(0, 100);
-                return draft.rats != NONE;
-            }
-            if (tape.takesWord("till")) {
-                draft.till = tape.takeNumber(0, 999);
-                return draft.till != NONE;
-            }
-            if (tape.takesWord("day")) {
-                draft.day = tape.takeNumber(0, 999);
-                return draft.day != NONE;
-            }
-            return false;
+            return pays != NONE && yardDraft.addContract(low, high, many, pays) != NONE;
         }
 
         private boolean readsHeap() {
             int grain = tape.takeNumber(1, GRAINS);
-            int many = grain == NONE ? NONE : tape.takeNumber(0, 999);
+            int many = grain != NONE ? tape.takeNumber(0, 999) : NONE;
             if (many == NONE) {
                 return false;
             }
-            draft.heapRow[grain] = many;
+            yardDraft.heapRow[grain] = many;
             return true;
         }
-    }
 
-    /** Reads the text of THE LAW into a draft. */
-    private static final class LawReader {
-        static final int DEEPEST = 6;
-
-        final Tape tape;
-        final Law draft;
-
-        LawReader(Tape tape, Law draft) {
-            this.tape = tape;
-            this.draft = draft;
+        /** A number that is wrong may stand in the draft, as nothing of it stays then. */
+        private boolean readsOneNumber() {
+            if (tape.takesWord("fire")) {
+                yardDraft.fire = tape.takeNumber(0, 100);
+                return yardDraft.fire != NONE;
+            }
+            if (tape.takesWord("rats")) {
+                yardDraft.rats = tape.takeNumber(0, 100);
+                return yardDraft.rats != NONE;
+            }
+            if (tape.takesWord("till")) {
+                yardDraft.till = tape.takeNumber(0, 999);
+                return yardDraft.till != NONE;
+            }
+            if (tape.takesWord("day")) {
+                yardDraft.day = tape.takeNumber(0, 999);
+                return yardDraft.day != NONE;
+            }
+            boolean smokes = tape.takesWord("smoke");
+            yardDraft.smoke |= smokes;
+            return smokes;
         }
 
-        boolean reads() {
-            tape.rewind();
-            draft.clear();
-            if (tape.atEnd()) {
-                return true;
-            }
-            for (int line = 0; line < Law.LINES; line++) {
-                if (!readsLine()) {
-                    return false;
-                }
-                if (tape.atEnd()) {
-                    return true;
-                }
-                if (!tape.takesSign(';')) {
-                    return false;
-                }
-            }
-            return false;
-        }
-
-        private boolean readsLine() {
-            int kind = takeKind();
-            int amount = kind == NONE ? NONE : tape.takeNumber(0, 99);
+        private boolean readsLawLine() {
+            int kind = tape.takesWord("more") ? Law.MORE_LINE
+                    : tape.takesWord("less") ? Law.LESS_LINE
+                    : tape.takesWord("toll") ? Law.TOLL_LINE : NONE;
+            int amount = kind != NONE ? tape.takeNumber(0, 99) : NONE;
             if (amount == NONE) {
                 return false;
             }
-            int begin = draft.used;
+            int begin = lawDraft.used;
             if (tape.takesWord("if") && !readsAny(0)) {
                 return false;
             }
-            draft.addLine(kind, amount, begin);
+            lawDraft.addLine(kind, amount, begin);
             return true;
-        }
-
-        private int takeKind() {
-            if (tape.takesWord("more")) {
-                return Law.MORE_LINE;
-            }
-            if (tape.takesWord("less")) {
-                return Law.LESS_LINE;
-            }
-            return tape.takesWord("toll") ? Law.TOLL_LINE : NONE;
         }
 
         /** C of the document; deep is how many ( and not it stands within. */
@@ -1676,7 +1658,7 @@ public final class DustYard {
                 if (!readsAll(deep)) {
                     return false;
                 }
-                draft.emit(Law.OR, 0);
+                lawDraft.emit(Law.OR, 0);
             }
             return true;
         }
@@ -1689,56 +1671,37 @@ public final class DustYard {
                 if (!readsAtom(deep)) {
                     return false;
                 }
-                draft.emit(Law.AND, 0);
+                lawDraft.emit(Law.AND, 0);
             }
             return true;
         }
 
         private boolean readsAtom(int deep) {
-            int begin = tape.nextThing();
             if (tape.takesWord("not")) {
-                if (deep >= DEEPEST) {
-                    return tape.refuse(begin);
-                }
-                boolean right = readsAtom(deep + 1);
-                draft.emit(Law.NOT, 0);
+                boolean right = deep < DEEPEST ? readsAtom(deep + 1) : tape.refuse();
+                lawDraft.emit(Law.NOT, 0);
                 return right;
             }
             if (tape.takesSign('(')) {
-                if (deep >= DEEPEST) {
-                    return tape.refuse(begin);
-                }
-                return readsAny(deep + 1) && tape.takesSign(')');
+                boolean right = deep < DEEPEST ? readsAny(deep + 1) : tape.refuse();
+                return right && tape.takesSign(')');
             }
-            return readsState() || readsComparison();
+            int op = tape.takesWord("smoke") ? Law.SMOKE
+                    : tape.takesWord("far") ? Law.FAR
+                    : tape.takesWord("full") ? Law.FULL : NONE;
+            if (op == NONE) {
+                op = takeComparison();
+            }
+            lawDraft.emit(op, 0);
+            return op != NONE;
         }
 
-        private boolean readsState() {
-            if (tape.takesWord("smoke")) {
-                draft.emit(Law.SMOKE, 0);
-                return true;
-            }
-            if (tape.takesWord("far")) {
-                draft.emit(Law.FAR, 0);
-                return true;
-            }
-            if (tape.takesWord("full")) {
-                draft.emit(Law.FULL, 0);
-                return true;
-            }
-            return false;
-        }
-
-        private boolean readsComparison() {
+        private int takeComparison() {
             if (!readsSum()) {
-                return false;
+                return NONE;
             }
             int op = tape.takesSign('<') ? Law.BELOW : tape.takesSign('>') ? Law.ABOVE : NONE;
-            if (op == NONE || !readsSum()) {
-                return false;
-            }
-            draft.emit(op, 0);
-            return true;
+            return op != NONE && readsSum() ? op : NONE;
         }
 
         private boolean readsSum() {
@@ -1749,45 +1712,26 @@ public final class DustYard {
                 if (!readsPart()) {
                     return false;
                 }
-                draft.emit(Law.PLUS, 0);
+                lawDraft.emit(Law.PLUS, 0);
             }
             return true;
         }
 
         private boolean readsPart() {
-            if (tape.seesNumber()) {
-                int value = tape.takeNumber(0, 999);
-                draft.emit(Law.NUMBER, Math.max(0, value));
-                return value != NONE;
+            int number = tape.takeNumber(0, 999);
+            if (number != NONE) {
+                lawDraft.emit(Law.NUMBER, number);
+                return true;
             }
-            int op = takePartWord();
-            if (op == NONE) {
-                return false;
-            }
-            draft.emit(op, 0);
-            return true;
-        }
-
-        private int takePartWord() {
-            if (tape.takesWord("street")) {
-                return Law.STREET;
-            }
-            if (tape.takesWord("x")) {
-                return Law.X;
-            }
-            if (tape.takesWord("y")) {
-                return Law.Y;
-            }
-            if (tape.takesWord("waits")) {
-                return Law.WAITS;
-            }
-            if (tape.takesWord("loads")) {
-                return Law.LOADS;
-            }
-            if (tape.takesWord("till")) {
-                return Law.TILL;
-            }
-            return tape.takesWord("day") ? Law.DAY : NONE;
+            int op = tape.takesWord("street") ? Law.STREET
+                    : tape.takesWord("x") ? Law.X
+                    : tape.takesWord("y") ? Law.Y
+                    : tape.takesWord("waits") ? Law.WAITS
+                    : tape.takesWord("loads") ? Law.LOADS
+                    : tape.takesWord("till") ? Law.TILL
+                    : tape.takesWord("day") ? Law.DAY : NONE;
+            lawDraft.emit(op, 0);
+            return op != NONE;
         }
     }
 
