@@ -448,7 +448,8 @@ public final class DustYard {
         if (n < 0 || n > 5 || k < 0 || k > 5) {
             throw new IllegalArgumentException("days and fires are 0 to 5");
         }
-        return (int) (waysOfFire(n, k) * 10000 / waysOfFire(n, 0));
+        long all = waysOfFire(n, 0);
+        return all < 1 ? 0 : (int) (waysOfFire(n, k) * 10000 / all);
     }
 
     // ---- the most, sets and counts
@@ -743,7 +744,7 @@ public final class DustYard {
         }
     }
 
-    /** Of 100 to the power of n ways, in how many there are k fires at least; never 0 for k 0. */
+    /** Of 100 to the power of n ways, in how many there are k fires at least. */
     private long waysOfFire(int n, int k) {
         if (n <= 0) {
             return k <= 0 ? 1 : 0;
@@ -1545,7 +1546,7 @@ public final class DustYard {
             if (tape.takesWord("heap")) {
                 return readsHeap();
             }
-            return readsOneNumber();
+            return readsRest();
         }
 
         private boolean readsStreet() {
@@ -1611,7 +1612,7 @@ public final class DustYard {
         }
 
         /** A number that is wrong may stand in the draft, as nothing of it stays then. */
-        private boolean readsOneNumber() {
+        private boolean readsRest() {
             if (tape.takesWord("fire")) {
                 yardDraft.fire = tape.takeNumber(0, 100);
                 return yardDraft.fire != NONE;
@@ -1628,9 +1629,11 @@ public final class DustYard {
                 yardDraft.day = tape.takeNumber(0, 999);
                 return yardDraft.day != NONE;
             }
-            boolean smokes = tape.takesWord("smoke");
-            yardDraft.smoke |= smokes;
-            return smokes;
+            if (tape.takesWord("smoke")) {
+                yardDraft.smoke = true;
+                return true;
+            }
+            return false;
         }
 
         private boolean readsLawLine() {

@@ -109,6 +109,10 @@ public final class ActsTest {
         Check.is("GRAIN 4", fire.heap(4), 9);
         Check.is("GRAIN 5", fire.heap(5), 3);
         Check.is("GRAIN 6", fire.heap(6), 0);
+        DustYard second = Check.made(heap + "fire 13;rats 15", null);
+        second.days(2);
+        Check.is("13 is not below 13", second.count(10), 0);
+        Check.is("15 is not below 15", second.heap(4), 9);
         DustYard rats = Check.made(heap + "fire 0;rats 59", null);
         rats.days(1);
         Check.is("no SMOKE", rats.count(10), 0);

@@ -143,7 +143,9 @@ public final class GuessTest {
         // 72 to 76 are left: 2 goes through both of 4, 3 of 3, 4 of 2, 5 of 1 of these.
         Check.is("of five", sift(yard, 6, 1), 3);
         Check.is("of three", sift(yard, 3, 2, 4, 1), 5);
-        Check.is("of two", sift(yard, 3, 0, 2, 1, 1, 2), -1);
+        Check.is("of one", sift(yard, 3, 0, 2, 1, 1, 2), -1);
+        Check.is("of two, by the last", sift(yard, 5, 2), 6);
+        Check.is("of 72 and 73", sift(yard, 6, 1, 3, 1), 2);
         Check.is("of 22, 32, 33", sift(yard, 3, 0), 2);
     }
 
@@ -169,6 +171,15 @@ public final class GuessTest {
                 Check.is("side " + i, yard.side(), side[i]);
             }
             Check.is("nothing is taken", yard.heap(6), rows[i][5]);
+        }
+        int[] row = new int[6];
+        for (int i = 0; i < 300; i++) {
+            for (int grain = 0; grain < 6; grain++) {
+                row[grain] = (i * 37 + grain * 101 + i * grain * grain * 13) % 29;
+            }
+            DustYard yard = heap(row);
+            Check.is("ends of many", yard.ends(), lead(row, 0, 5));
+            Check.is("side of many", yard.side(), side(row));
         }
     }
 

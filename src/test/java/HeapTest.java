@@ -153,6 +153,9 @@ public final class HeapTest {
         DustYard all = Check.made("contract 1 to 6 many 9 pays 9;contract 6 to 6 many 1 pays 1;heap 6 10", null);
         Check.is("all", all.worth(), 82);
         Check.is("all", all.serves(), 3);
+        DustYard first = Check.made("contract 6 to 6 many 5 pays 3;contract 5 to 6 many 3 pays 2;heap 5 9;heap 6 3", null);
+        Check.is("told first", first.serves(), 2);
+        Check.is("too few of the coarsest", first.worth(), 6);
         DustYard three = Check.made("contract 2 to 3 many 4 pays 1;contract 3 to 4 many 4 pays 1;contract 2 to 4 many 4 pays 1;"
                 + "heap 1 99;heap 2 4;heap 3 4;heap 4 3;heap 5 99", null);
         Check.is("a run of three has too few", three.worth(), 8);
@@ -179,12 +182,16 @@ public final class HeapTest {
         both.lay(1, 2, 9);
         Check.is("half", both.blend(0, 1, 1, 50), 10);
         Check.is("none of 1", both.blend(0, 1, 3, 1), -1);
+        DustYard sixths = Check.made("street at 1 1 mix 510000;street at 1 1 mix 180000", null);
+        Check.is("five sixths", sixths.blend(0, 1, 1, 83), 10);
+        Check.is("not more", sixths.blend(0, 1, 1, 84), -1);
         DustYard empty = Check.made("street at 1 1 mix 000000;street at 1 1 mix 000000", null);
         Check.is("nothing in these", empty.blend(0, 1, 1, 0), -1);
         Check.refuses(yard, "both are one", IllegalArgumentException.class, () -> yard.blend(1, 1, 1, 1));
         Check.refuses(yard, "P 101", IllegalArgumentException.class, () -> yard.blend(0, 1, 1, 101));
         Check.refuses(yard, "P -1", IllegalArgumentException.class, () -> yard.blend(0, 1, 1, -1));
         Check.refuses(yard, "no street", IndexOutOfBoundsException.class, () -> yard.blend(4, 4, 1, 101));
+        Check.refuses(yard, "no first street", IndexOutOfBoundsException.class, () -> yard.blend(4, 0, 1, 1));
         Check.refuses(yard, "no other street", IndexOutOfBoundsException.class, () -> yard.blend(0, -1, 1, 101));
         Check.refuses(yard, "grain 0", IndexOutOfBoundsException.class, () -> yard.blend(0, 0, 0, 1));
         Check.refuses(yard, "grain 7", IndexOutOfBoundsException.class, () -> yard.blend(0, 1, 7, 1));
@@ -208,6 +215,9 @@ public final class HeapTest {
         Check.is("one is left", alike.pairs(-1), 2);
         Check.is("none is the least", alike.pairs(0), -1);
         Check.is("then the others", alike.pairs(1), 2);
+        DustYard touch = Check.made("contract 3 to 4 many 1 pays 2;contract 1 to 3 many 1 pays 1;contract 5 to 6 many 1 pays 9", null);
+        Check.is("a grain in common", touch.pairs(-1), 3);
+        Check.is("0 with 1", touch.pairs(0), 1);
         DustYard nothing = Check.made("contract 1 to 6 many 1 pays 0;contract 1 to 6 many 1 pays 0", null);
         Check.is("for nothing", nothing.pairs(-1), 0);
         Check.is("none", nothing.pairs(0), -1);

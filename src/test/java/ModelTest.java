@@ -125,11 +125,12 @@ public final class ModelTest {
     }
 
     private boolean act() {
-        return switch (random.nextInt(11)) {
+        return switch (random.nextInt(12)) {
             case 0, 1, 2 -> call("days", random.nextInt(4) > 0 ? 1 + upTo(3) : about(1, 60));
             case 3 -> call("tip", about(0, 3));
             case 4 -> call("buy", about(2, 6));
-            case 5 -> call("take", about(1, 4), about(3, 6), about(1, 99), about(0, 9));
+            case 5 -> call("take", about(1, 5), about(3, 6), about(1, 40), about(0, 9));
+            case 10 -> call("take", about(5, 6), about(6, 6), about(1, 9), about(0, 9));
             case 6 -> call("drop", about(0, 5));
             case 7 -> call("hire", about(1, 9), about(1, 99));
             case 8 -> call("lay", about(0, 4), about(1, 6), about(0, 9));

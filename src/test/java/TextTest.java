@@ -111,7 +111,11 @@ public final class TextTest {
         wrongYard("siev 2", 0);
         wrongYard("sieve", 5);
         wrongYard("sieve  ", 7);
+        wrongYard("sieve 1", 6);
         wrongYard("sieve 7", 6);
+        wrongYard("sieve 2 ;smokez", 9);
+        wrongYard(";".repeat(400), 0);
+        wrongYard(" ".repeat(399) + ";", 399);
         wrongYard("sieve 0002", 6);
         wrongYard("sieve -2", 6);
         wrongYard("sieve two", 6);
@@ -242,6 +246,10 @@ public final class TextTest {
         Check.is("by the sums, not one behind another", yard.street(0, 4), 1);
         Check.is("12 lines", Check.addLaw(yard, times(12, "more 99")), 12);
         Check.is("FILLS", yard.street(0, 4), 1189);
+        Check.is("nothing more", Check.addLaw(yard, "more 0;less 0;toll 0"), 3);
+        Check.is("FILLS", yard.street(0, 4), 1);
+        Check.is("as long as the tape", Check.addLaw(yard, "toll 9 if x<" + "1+".repeat(193) + "1"), 1);
+        Check.is("TOLL", yard.street(0, 5), 9);
         Check.is("an empty law", Check.addLaw(yard, ""), 0);
         Check.is("has no line", yard.count(5), 0);
         Check.is("FILLS", yard.street(0, 4), 1);
@@ -300,6 +308,10 @@ public final class TextTest {
         holds("x>4 and far or smoke and x>4 or street<1", 3);
         holds("((((((far))))))", 2);
         holds("far or (full and (smoke or not (x<5)))", 2);
+        DustYard days = Check.made("street at 1 1 mix 000000;day 99", "toll 3 if day>98");
+        Check.is("day 99", days.street(0, 5), 3);
+        days.days(1);
+        Check.is("day 100", days.street(0, 5), 0);
         DustYard yard = Check.made("street at 1 1 mix 000000;smoke;fire 100", "toll 3 if smoke;more 7 if not smoke");
         Check.is("TOLL by smoke", yard.street(0, 5), 3);
         Check.is("FILLS by smoke", yard.street(0, 4), 1);
@@ -332,6 +344,8 @@ public final class TextTest {
         wrongLaw("more 1 if ", 10);
         wrongLaw("more 1 if;", 9);
         wrongLaw("more 1 iffar", 7);
+        wrongLaw("more 1 if farz", 10);
+        wrongLaw("more 1 if afar", 10);
         wrongLaw("more 1 if near", 10);
         wrongLaw("more 1 if x", 11);
         wrongLaw("more 1 if x;", 11);

@@ -28,6 +28,7 @@ public final class ThingsTest {
         }
         DustYard empty = Check.made("street at 3 4 mix 123456", null);
         Check.is("PART without WAITS", empty.street(0, 7), 0);
+        Check.is("PART of one", Check.made("street at 0 0 mix 000000 waits 7", null).street(0, 7), 100);
         for (int street : new int[] {-1, 3, Integer.MAX_VALUE, Integer.MIN_VALUE}) {
             Check.refuses(yard, "street " + street, IndexOutOfBoundsException.class, () -> yard.street(street, 0));
             Check.refuses(yard, "street " + street + " comes first", IndexOutOfBoundsException.class, () -> yard.street(street, 9));
@@ -75,6 +76,8 @@ public final class ThingsTest {
         Check.is("a street at the yard is no way", near.cart(0, 3), 7);
         Check.is("which", near.cart(0, 4), 0b110);
         Check.is("hold is no matter", near.cart(1, 3), 12);
+        DustYard one = Check.made("street at 4 0 mix 000000 waits 1;cart hold 1 goes 8", null);
+        Check.is("one waits", one.cart(0, 3) * 10 + one.cart(0, 4), 11);
         DustYard least = Check.made("street at 9 0 mix 000000 waits 5;street at 2 0 mix 000000 waits 5;cart hold 1 goes 17", null);
         Check.is("one of the two", least.cart(0, 4), 2);
         least.hire(1, 18);
@@ -150,8 +153,10 @@ public final class ThingsTest {
         Check.is("FULLEST, the first of two", yard.most(0), 3);
         Check.is("FARTHEST", yard.most(1), 4);
         Check.is("RICHEST", yard.most(2), 3);
+        DustYard one = Check.made("street at 0 0 mix 000000;contract 1 to 1 many 1 pays 0", null);
         DustYard none = new DustYard();
         for (int what = 0; what < 3; what++) {
+            Check.is("one", one.most(what), 0);
             Check.is("none", none.most(what), -1);
         }
         Check.refuses(yard, "what 3", NoSuchElementException.class, () -> yard.most(3));

@@ -87,6 +87,14 @@ public final class TimeTest {
         }
         Check.is("seeds are no matter of indifference", parted, true);
         Check.is("now", yard.span(0, false), 5);
+        Check.is("now", yard.span(0, true), 5);
+        // The first two draws of SEED 1 are 38 and 58, of 6 26 and 15; of the others 8 and 17, 47 and 7, 17 and 66, 55 and 57.
+        DustYard last = Check.made("fire 30;rats 16;heap 4 6;heap 5 6;contract 4 to 5 many 9 pays 1", null);
+        Check.is("fire and rats by SEED 6 alone", last.span(1, false), 0);
+        Check.is("all others", last.span(1, true), 9);
+        DustYard first = Check.made("fire 20;rats 58;heap 4 6;heap 5 6;contract 4 to 5 many 12 pays 1", null);
+        Check.is("neither by SEED 1 alone", first.span(1, true), 12);
+        Check.is("all others", first.span(1, false), 0);
         Check.same("nothing stays", Check.seen(yard), before);
         Check.refuses(yard, "61", IllegalArgumentException.class, () -> yard.span(61, false));
         Check.refuses(yard, "-1", IllegalArgumentException.class, () -> yard.span(-1, true));
