@@ -76,7 +76,7 @@ public final class DustYard {
 
     public int yard() throws IllegalArgumentException, UnsupportedOperationException {
         draft.copyFrom(now);
-        boolean right = reader.readsYard();
+        boolean right = reader.reads(Reader.YARD_LINES, false);
         wrongByte = right ? NONE : tape.wrongAt();
         tape.clear();
         if (!right) {
@@ -93,7 +93,8 @@ public final class DustYard {
     }
 
     public int law() throws IllegalArgumentException {
-        boolean right = reader.readsLaw();
+        lawDraft.clear();
+        boolean right = reader.reads(Law.LINES, true);
         wrongByte = right ? NONE : tape.wrongAt();
         tape.clear();
         if (!right) {
@@ -897,7 +898,7 @@ public final class DustYard {
             }
             int value = 0;
             for (int at = begins[next]; at < ends[next]; at++) {
-                if (kindOf(bytes[at]) != DIGIT) {
+                if (bytes[at] < '0' || bytes[at] > '9') {
                     return NONE;
                 }
                 value = 10 * value + bytes[at] - '0';
@@ -1501,16 +1502,7 @@ public final class DustYard {
             this.lawDraft = lawDraft;
         }
 
-        boolean readsYard() {
-            return readsLines(YARD_LINES, false);
-        }
-
-        boolean readsLaw() {
-            lawDraft.clear();
-            return readsLines(Law.LINES, true);
-        }
-
-        private boolean readsLines(int most, boolean ofLaw) {
+        boolean reads(int most, boolean ofLaw) {
             tape.partIntoThings();
             if (tape.atEnd()) {
                 return true;
@@ -1693,18 +1685,16 @@ public final class DustYard {
                     : tape.takesWord("far") ? Law.FAR
                     : tape.takesWord("full") ? Law.FULL : NONE;
             if (op == NONE) {
-                op = takeComparison();
+                if (!readsSum()) {
+                    return false;
+                }
+                op = tape.takesSign('<') ? Law.BELOW : tape.takesSign('>') ? Law.ABOVE : NONE;
+                if (op == NONE || !readsSum()) {
+                    return false;
+                }
             }
             lawDraft.emit(op, 0);
-            return op != NONE;
-        }
-
-        private int takeComparison() {
-            if (!readsSum()) {
-                return NONE;
-            }
-            int op = tape.takesSign('<') ? Law.BELOW : tape.takesSign('>') ? Law.ABOVE : NONE;
-            return op != NONE && readsSum() ? op : NONE;
+            return true;
         }
 
         private boolean readsSum() {
