@@ -3,6 +3,7 @@ import java.nio.charset.StandardCharsets;
 /** What the tests share: telling texts, comparing answers, and seeing that a refused call changed nothing. */
 final class Check {
     private static int wrong = 0;
+    private static String sentence = "";
 
     private Check() {
     }
@@ -17,10 +18,15 @@ final class Check {
         void run();
     }
 
+    /** What is looked at from here on, in words of the document: told with each answer that is not as due. */
+    static void sentence(String words) {
+        sentence = "\"" + words + "\" ";
+    }
+
     static void is(String what, long got, long want) {
         if (got != want) {
             wrong++;
-            System.out.println(what + " answered " + got + ", due is " + want);
+            System.out.println(sentence + what + " answered " + got + ", due is " + want);
         }
     }
 
@@ -31,7 +37,7 @@ final class Check {
     static void same(String what, String got, String want) {
         if (!got.equals(want)) {
             wrong++;
-            System.out.println(what + ": " + got + ", due is " + want);
+            System.out.println(sentence + what + ": " + got + ", due is " + want);
         }
     }
 
@@ -46,6 +52,12 @@ final class Check {
         }
         same(what, got, want.getName());
         same(what + " changed something", seen(yard), before);
+    }
+
+    /** As refuses, of a call that reads the TAPE: that is used up, and nothing else is otherwise. */
+    static void refusesTape(DustYard yard, String what, Class<? extends RuntimeException> want, Call call) {
+        refuses(yard, what, want, call);
+        is(what + ": the tape is used up", yard.end(1), false);
     }
 
     static void refusesAct(DustYard yard, String what, Class<? extends RuntimeException> want, Act act) {
