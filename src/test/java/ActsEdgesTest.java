@@ -82,6 +82,7 @@ public final class ActsEdgesTest {
         Check.is("nothing in the HEAP", none.heap(1), 0);
         DustYard one = afterADay("street at 0 0 mix 111111 waits 1;cart hold 9 goes 9", "less 1");
         Check.is("one waits: a row", one.count(11), 1);
+        Check.is("of a CART that fetched (0)", one.log(0, 2), 0);
         Check.is("one load", one.log(0, 4), 1);
         Check.is("none waits then", one.street(0, 2), 0);
         Check.is("no STREET at all", afterADay("cart hold 9 goes 9", null).count(11), 0);

@@ -9,6 +9,7 @@ public final class GuessEdgesTest {
 
     public static void main(String[] args) {
         fromButForOne();
+        rowsOfTheLatestTape();
         fromTape();
         likely();
         likelyTape();
@@ -92,6 +93,17 @@ public final class GuessEdgesTest {
         Check.is("the first one, too", told(streets(), DustYard::from, oneWrong), 0);
     }
 
+    private static void rowsOfTheLatestTape() {
+        Check.sentence("33 to 37: Uses the TAPE up: rows of an earlier one are told no more");
+        DustYard yard = streets();
+        Check.is("three rows", told(yard, DustYard::from, 1, 9, 2, 8, 3, 7), 0b1000);
+        Check.is("one row", told(yard, DustYard::from, 1, 9), 0b1111);
+        Check.is("none", told(yard, DustYard::from), 0b1111);
+        Check.is("none, the least", told(yard, DustYard::likely), 0);
+        Check.is("two rows", told(yard, one -> one.meshes(false), 6, 2, 5, 2), 1);
+        Check.is("none", told(yard, one -> one.meshes(false)), 21);
+    }
+
     private static void fromTape() {
         Check.sentence("33: (of each two bytes: the GRAIN, how many; at most 40 bytes) .. the TAPE is not that (none may be told)");
         rightTapes(DustYard::from, 9);
@@ -129,6 +141,8 @@ public final class GuessEdgesTest {
         DustYard seven = Check.made("street at 1 1 mix 000000;street at 1 1 mix 000000;street at 1 1 mix 000000;street at 1 1 mix 011000;"
                 + "street at 1 1 mix 112000;street at 1 1 mix 123000;street at 1 1 mix 124000", null);
         Check.is("of 7", told(seven, DustYard::ask), 2);
+        // Of those that fit, 4 to 6, the second GRAIN leaves two together, the third none; of all it would be the second.
+        Check.is("those that fit alone", told(seven, DustYard::ask, 1, 1, 1, 1), 3);
     }
 
     private static void askTape() {
@@ -197,7 +211,10 @@ public final class GuessEdgesTest {
         Check.is("none fits", siftBy(1, 1), -1);
         Check.is("of 72 and 73", siftBy(6, 1, 3, 1), 2);
         Check.is("of 66 and 76, 77", siftBy(5, 2), 6);
-        Check.is("of several the least: 22, 32, 33", siftBy(3, 0), 2);
+        Check.is("of 22, 32, 33", siftBy(3, 0), 2);
+        // Of 72 to 76, GRAIN 3 and GRAIN 4 both leave 3 together; of 22 to 44, GRAIN 2 and GRAIN 3 do.
+        Check.is("of several the least", siftBy(6, 1), 3);
+        Check.is("of several the least", siftBy(4, 0), 2);
     }
 
     private static void siftTape() {
@@ -232,7 +249,12 @@ public final class GuessEdgesTest {
         Check.is("both do", heap(5, 5, 5, 5, 5, 5).side(), 0);
         Check.is("the least", heap(6, 5, 5, 5, 5, 5).side(), 0);
         Check.is("the greatest", heap(5, 5, 5, 5, 5, 6).side(), 1);
+        Check.is("the least of two alone", heap(9, 0, 0, 0, 0, 8).side(), 0);
+        Check.is("the greatest of two alone", heap(8, 0, 0, 0, 0, 9).side(), 1);
         Check.is("both are worth as much", heap(0, 9, 0, 0, 9, 0).side(), 0);
+        // By the greatest first she leaves 1, 100 and three more, of which 100 is hers next.
+        Check.is("the greatest, though it is no more", heap(1, 100, 1, 1, 1, 1).side(), 1);
+        Check.is("the least, though it is no more", heap(1, 1, 1, 1, 100, 1).side(), 0);
     }
 
     private static void share() {

@@ -28,6 +28,7 @@ public final class HeapEdgesTest {
         blendRefused();
         pairsMost();
         pairsFirst();
+        pairsCrossed();
         pairsRefused();
         Check.end();
     }
@@ -112,6 +113,9 @@ public final class HeapEdgesTest {
         Check.is("the coarsest", fewest("sieve 2;sieve 6", "contract 6 to 6 many 1 pays 1"), 0b10);
         Check.is("in between, by two", fewest("sieve 2;sieve 3;sieve 4", "contract 3 to 3 many 1 pays 1"), 0b110);
         Check.is("two that lie side by side", fewest("sieve 4", "contract 1 to 3 many 1 pays 1;contract 4 to 6 many 1 pays 1"), 0b1);
+        Check.is("all but for the finest", fewest("sieve 6;sieve 2", "contract 2 to 6 many 1 pays 1"), 0b10);
+        Check.is("all but for the coarsest", fewest("sieve 2;sieve 6", "contract 1 to 5 many 1 pays 1"), 0b10);
+        Check.is("each of several", fewest("sieve 3;sieve 5", "contract 3 to 6 many 1 pays 1;contract 1 to 4 many 1 pays 1;contract 1 to 6 many 1 pays 1"), 0b11);
         DustYard dropped = Check.made("sieve 2;contract 1 to 1 many 1 pays 1", null);
         Check.is("OPEN", dropped.fewest(), 1);
         dropped.drop(0);
@@ -226,6 +230,11 @@ public final class HeapEdgesTest {
                 + "street at 1 8 mix 000000 waits 1;street at 5 4 mix 000000 waits 1;street at 4 5 mix 000000 waits 1;"
                 + "street at 7 2 mix 000000 waits 1", null);
         Check.is("each of 7 alone", seven.trips(18), 7);
+        // By 24 only those side by side go together: 0 and 3, 3 and 2, 2 and 1.
+        DustYard chain = Check.made("street at 9 0 mix 000000 waits 1;street at 0 9 mix 000000 waits 1;street at 3 6 mix 000000 waits 1;"
+                + "street at 6 3 mix 000000 waits 1", null);
+        Check.is("two by two", chain.trips(24), 2);
+        Check.is("each alone", chain.trips(23), 4);
         Check.is("all of 7 together", seven.trips(36), 1);
     }
 
@@ -253,6 +262,8 @@ public final class HeapEdgesTest {
         Check.is("one too few", Check.made("contract 2 to 3 many 9 pays 9;heap 1 9;heap 2 3;heap 3 5;heap 4 9", null).worth(), 0);
         Check.is("two, just enough", Check.made("contract 1 to 2 many 4 pays 1;contract 2 to 3 many 4 pays 2;heap 1 3;heap 2 2;heap 3 3", null).worth(), 12);
         Check.is("two, one too few", Check.made("contract 1 to 2 many 4 pays 1;contract 2 to 3 many 4 pays 2;heap 1 3;heap 2 1;heap 3 3", null).worth(), 8);
+        Check.is("too few of the coarsest", Check.made("contract 6 to 6 many 5 pays 3;heap 5 9;heap 6 4", null).worth(), 0);
+        Check.is("too few of the finest", Check.made("contract 1 to 1 many 5 pays 3;heap 1 4;heap 2 9", null).worth(), 0);
         Check.sentence("WORTH .. (each single one for one CONTRACT alone, put to these as goes best for all)");
         DustYard narrow = Check.made("contract 1 to 6 many 5 pays 1;contract 6 to 6 many 5 pays 1;heap 1 5;heap 6 5", null);
         Check.is("the wide one takes what the narrow one does not want", narrow.worth(), 10);
@@ -277,6 +288,10 @@ public final class HeapEdgesTest {
         all.drop(0);
         all.drop(5);
         Check.is("OPEN ones", all.serves(), 0b011110);
+        for (int contract = 1; contract < 5; contract++) {
+            all.drop(contract);
+        }
+        Check.is("none is OPEN", all.serves(), 0);
     }
 
     // ---- loads mixed
@@ -291,6 +306,9 @@ public final class HeapEdgesTest {
         Check.is("only the first one does", loads().blend(0, 1, 1, 11), 10);
         Check.is("just as much", loads().blend(0, 1, 1, 90), 10);
         Check.is("more than either has", loads().blend(0, 1, 1, 91), -1);
+        DustYard sixths = Check.made("street at 1 1 mix 510000;street at 1 1 mix 180000", null);
+        Check.is("83 hundredths of five sixths", sixths.blend(0, 1, 1, 83), 10);
+        Check.is("84 are a little too many", sixths.blend(0, 1, 1, 84), -1);
         Check.is("one that has none of it", loads().blend(0, 1, 6, 1), -1);
         Check.sentence("BLEND .. (something must be in these)");
         Check.is("the other one is empty", loads().blend(3, 2, 6, 100), 10);
@@ -370,6 +388,19 @@ public final class HeapEdgesTest {
         for (int contract = 0; contract < 6; contract++) {
             Check.is("of 6 alike, " + contract, six.pairs(contract), two[contract]);
         }
+    }
+
+    private static void pairsCrossed() {
+        Check.sentence("PAIRS .. each in one such pair at most, only such as have a GRAIN in common");
+        DustYard crossed = Check.made("contract 1 to 2 many 1 pays 1;contract 5 to 6 many 1 pays 1;contract 1 to 1 many 1 pays 1;contract 6 to 6 many 1 pays 1", null);
+        Check.is("two pairs", crossed.pairs(-1), 4);
+        int[] due = {2, 3, 0, 1};
+        for (int contract = 0; contract < 4; contract++) {
+            Check.is("with which is " + contract, crossed.pairs(contract), due[contract]);
+        }
+        crossed.drop(2);
+        Check.is("one pair", crossed.pairs(-1), 2);
+        Check.is("no more", crossed.pairs(0), -1);
     }
 
     private static void pairsRefused() {

@@ -212,10 +212,15 @@ public final class TextEdgesTest {
         Check.is("two", Check.addLaw(yard, "more 1;toll 1"), 2);
         Check.is("it is used up", yard.end(1), false);
         Check.is("none", yard.law(), 0);
-        for (int i = 0; i < 20; i++) {
-            Check.is("there may be any number of laws", Check.addLaw(yard, "more 1"), 1);
+        Check.addYard(yard, STREET);
+        String sum = "1+".repeat(150) + "1";
+        for (int i = 0; i < 12; i++) {
+            Check.is("there may be any number of laws", Check.addLaw(yard, "toll 1 if x<" + i + "+" + sum), 1);
+            Check.is("each a long one", yard.street(0, 5), 1);
+            Check.addLaw(yard, "toll 1 if x>" + i + "+" + sum);
+            Check.is("each a long one", yard.street(0, 5), 0);
         }
-        Check.is("none is a text of THE YARD", yard.count(4), 0);
+        Check.is("none is a text of THE YARD", yard.count(4), 1);
     }
 
     private static void lawWrong() {
@@ -563,6 +568,9 @@ public final class TextEdgesTest {
         right("street at1 1mix000000waits9;cart hold1goes1;sieve2;contract1to1many1pays1;heap1 1;fire1;rats1;till1;day1;smoke");
         wrong("streetat 1 1 mix 000000", 0);
         wrong("smokes", 0);
+        wrong("smokez", 0);
+        wrong("smokea", 0);
+        wrong("zsmoke", 0);
         wrong("smok", 0);
         wrong("smoke smoke", 6);
         wrong("Smoke", 0);
@@ -607,6 +615,17 @@ public final class TextEdgesTest {
         rightLaw("more 1 if ((((((far)))))) and ((((((far)))))) or not not not not not not far", 1);
         rightLaw("more 1 if (((((far or (full) and (smoke) and not far)))))", 1);
         rightLaw("more 1 if ((((((far))))));more 1 if ((((((far))))))", 2);
+        // Of this STREET far does not hold, and x<2 does.
+        holds(STREET, "((((((x<2))))))", true);
+        holds(STREET, "((((((far))))))", false);
+        holds(STREET, "not not not not not not x<2", true);
+        holds(STREET, "not not not not not far", true);
+        holds(STREET, "not not not not not not far", false);
+        holds(STREET, "not (far or not (x<2 and not (far and x<2)))", true);
+        holds(STREET, "not (far or not (x<2 and not (far or x<2)))", false);
+        holds(STREET, "1<2 and (1<2 and (1<2 and (1<2 and (1<2 and (1<2 and (1<2 or far))))))", true);
+        holds(STREET, "far or (far or (far or (far or (far or (far or (x<1+1+1 and 1<2))))))", true);
+        holds(STREET, "far or 1<2 and (far or 1<2 and (far or 1<2 and (far or 1<2 and (far or 1<2 and (far or 1<2 and (far or 1<2 and far))))))", false);
         wrongLaw("more 1 if (((((((far)))))))", 16);
         wrongLaw("more 1 if not not not not not not not far", 34);
         wrongLaw("more 1 if ((((((not far))))))", 16);
@@ -642,6 +661,8 @@ public final class TextEdgesTest {
             wrongLaw(text + " ", text.length() + 1);
         }
         wrong("sieve" + " ".repeat(395), 400);
+        wrong(";".repeat(400), 0);
+        wrong("sieve 2" + ";".repeat(393), 8);
     }
 
     private static void whatCannotStandThere() {

@@ -19,6 +19,7 @@ public final class ThingsEdgesTest {
         reached();
         best();
         which();
+        bestOfAnotherText();
         meshes();
         contracts();
         heaps();
@@ -190,6 +191,21 @@ public final class ThingsEdgesTest {
         DustYard bits = Check.made("street at 0 3 mix 000000 waits 6;street at 3 0 mix 000000 waits 3;street at 3 0 mix 000000 waits 3;"
                 + "cart hold 1 goes 6", null);
         Check.is("6 alone by 6, or 3 and 3 by 6: not the fewest, the least", bits.cart(0, 4), 0b001);
+    }
+
+    private static void bestOfAnotherText() {
+        Check.sentence("BEST, WHICH, TRIPS and ROUND of the STREETS that there are then");
+        DustYard yard = Check.made("street at 9 0 mix 000000 waits 4;cart hold 1 goes 18", null);
+        Check.is("one", yard.cart(0, 4), 1);
+        yard.image();
+        Check.addYard(yard, "street at 0 2 mix 000000 waits 4");
+        Check.is("another text", yard.cart(0, 4), 2);
+        Check.is("two rounds", yard.trips(18), 2);
+        yard.back();
+        Check.is("gone back", yard.cart(0, 4), 1);
+        Check.addYard(yard, "street at 5 0 mix 000000 waits 4");
+        Check.is("another one in its place", yard.cart(0, 4), 3);
+        Check.is("one round", yard.trips(18), 1);
     }
 
     // ---- SIEVES, CONTRACTS, the HEAP, ways

@@ -27,7 +27,9 @@ public final class TimeEdgesTest {
         seed();
         undoOfNone();
         undoTwelve();
+        undoOfEachAct();
         undoOfOneCall();
+        fullLogUndone();
         undoOfRefused();
         undoAllButFor();
         noneAreRemembered();
@@ -155,7 +157,11 @@ public final class TimeEdgesTest {
         }
         Check.is("of an empty yard", new DustYard().span(60, false), 0);
         Check.is("of an empty yard", new DustYard().span(60, true), 0);
-        // The first two draws of SEED 1 to 6 modulo 100: 38 58, 8 17, 47 7, 17 66, 55 57, 26 15.
+        // The first two draws of SEED 1 to 6 modulo 100: 38 58, 8 17, 47 7, 17 66, 55 57, 26 15; of 0 they are 0 68, of 7 64 6.
+        DustYard nought = Check.made("fire 8;heap 5 9;contract 5 to 5 many 9 pays 1", null);
+        Check.is("a fire by SEED 0 alone, which is none", nought.span(1, false), 9);
+        DustYard seven = Check.made("rats 7;heap 4 9;contract 4 to 4 many 9 pays 1", null);
+        Check.is("rats by SEED 7 alone, which is none", seven.span(1, false), 9);
         DustYard first = Check.made("fire 20;rats 58;heap 4 6;heap 5 6;contract 4 to 5 many 12 pays 1", null);
         Check.is("neither comes by SEED 1 alone", first.span(1, true), 12);
         DustYard last = Check.made("fire 30;rats 16;heap 4 6;heap 5 6;contract 4 to 5 many 9 pays 1", null);
@@ -330,6 +336,21 @@ public final class TimeEdgesTest {
         Check.is("DAY", yard.count(9), 1);
     }
 
+    private static void undoOfEachAct() {
+        Check.sentence("ACTS: DAYS; a load is tipped by hand; a SIEVE is bought; a CONTRACT is taken, or dropped; a CART is hired; MIX .. is told; "
+                + "SMOKE is put out; a CONTRACT is FILLED by hand");
+        DustYard yard = Check.made("street at 1 0 mix 100000 waits 9;till 9;smoke;heap 1 9;contract 1 to 1 many 1 pays 9;contract 1 to 1 many 1 pays 9", null);
+        Check.Act[] acts = {() -> yard.days(1), () -> yard.tip(0), () -> yard.buy(3), () -> yard.take(1, 1, 1, 1), () -> yard.drop(0),
+            () -> yard.hire(1, 1), () -> yard.lay(0, 1, 5), yard::douse, () -> yard.fill(1)};
+        String before = Check.seen(yard);
+        for (int i = 0; i < acts.length; i++) {
+            acts[i].run();
+            Check.is("one ACT can be UNDONE: " + i, yard.count(12), 1);
+            Check.is("undone: " + i, yard.undo(), true);
+            Check.same("all is as ahead of it: " + i, Check.seen(yard), before);
+        }
+    }
+
     private static void undoOfOneCall() {
         Check.sentence("(.. DAYS of one call are one)");
         DustYard yard = busy();
@@ -338,6 +359,28 @@ public final class TimeEdgesTest {
         Check.is("one", yard.count(12), 1);
         yard.undo();
         Check.same("all 60 are undone", Check.seen(yard), before);
+    }
+
+    private static void fullLogUndone() {
+        Check.sentence("UNDONE: all is as ahead of it; THE IMAGE of all: a full LOG, too");
+        DustYard yard = Check.made("street at 0 0 mix 100000 waits 3;cart hold 1 goes 1", null);
+        yard.days(60);
+        yard.days(7);
+        yard.days(30);
+        Check.is("undone", yard.undo(), true);
+        Check.is("rows", yard.count(11), 60);
+        Check.is("the latest", yard.log(0, 0), 66);
+        Check.is("the one before", yard.log(1, 0), 65);
+        Check.is("the oldest", yard.log(59, 0), 7);
+        yard.image();
+        yard.days(50);
+        Check.is("back", yard.back(), true);
+        Check.is("the latest", yard.log(0, 0), 66);
+        Check.is("the oldest", yard.log(59, 0), 7);
+        yard.days(1);
+        Check.is("one more", yard.log(0, 0), 67);
+        Check.is("the one before", yard.log(1, 0), 66);
+        Check.is("the oldest", yard.log(59, 0), 8);
     }
 
     private static void undoOfRefused() {
