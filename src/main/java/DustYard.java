@@ -36,6 +36,7 @@ public final class DustYard {
     private final Rounds rounds;
     private final Deals deals;
     private final Guesses guesses;
+    private final int[] shovels;
     private boolean isKept;
     private int wrongByte;
 
@@ -52,6 +53,7 @@ public final class DustYard {
         rounds = new Rounds();
         deals = new Deals();
         guesses = new Guesses();
+        shovels = new int[CARTS];
         isKept = false;
         wrongByte = NONE;
     }
@@ -424,9 +426,11 @@ public final class DustYard {
         if (n < 0 || n > 99) {
             throw new IllegalArgumentException("shovels are 0 to 99");
         }
-        int[] shovels = new int[CARTS];
+        for (int i = 0; i < CARTS; i++) {
+            shovels[i] = 0;
+        }
         for (int given = 0; given < n; given++) {
-            shovels[nextForShovel(shovels)]++;
+            shovels[nextForShovel()]++;
         }
         return shovels[cart];
     }
@@ -722,7 +726,7 @@ public final class DustYard {
         return Math.max(byLeast, byGreatest);
     }
 
-    private int nextForShovel(int[] shovels) {
+    private int nextForShovel() {
         int best = 0;
         for (int cart = 1; cart < now.carts; cart++) {
             if (now.holdOf(cart) / (shovels[cart] + 1) > now.holdOf(best) / (shovels[best] + 1)) {
@@ -1731,6 +1735,8 @@ public final class DustYard {
     /** Rounds by sets of STREETS; all their ways are measured once, as long as no STREET comes or goes. */
     private static final class Rounds {
         static final int SETS = 1 << STREETS;
+        // Of a way that is not found yet: eight times across the town and back are far less.
+        static final int UNFOUND = 9999;
 
         final int[] whole = new int[SETS];
         final int[] upTo = new int[SETS * STREETS];
@@ -1787,7 +1793,7 @@ public final class DustYard {
                 return;
             }
             for (int set = 1; set < 1 << state.streets; set++) {
-                int least = Integer.MAX_VALUE;
+                int least = UNFOUND;
                 for (int last = 0; last < state.streets; last++) {
                     if ((set >> last & 1) != 0) {
                         int way = leastUpTo(state, set, last);
@@ -1806,7 +1812,7 @@ public final class DustYard {
             if (others == 0) {
                 return state.distance(NONE, last);
             }
-            int least = Integer.MAX_VALUE;
+            int least = UNFOUND;
             for (int before = 0; before < state.streets; before++) {
                 if ((others >> before & 1) != 0) {
                     least = Math.min(least, upTo[others * STREETS + before] + state.distance(before, last));
@@ -1923,6 +1929,8 @@ public final class DustYard {
         static final int MOST_PASSES = 2;
         static final int ROWS = 20;
         static final int WIDEST_MESH = 7;
+        // Of two meshes of 2 to 7, the first no less.
+        static final int MESH_PAIRS = 21;
 
         final int[] grains = new int[ROWS];
         final int[] numbers = new int[ROWS];
@@ -2028,7 +2036,7 @@ public final class DustYard {
                 return NONE;
             }
             int best = 1;
-            int least = Integer.MAX_VALUE;
+            int least = MESH_PAIRS + 1;
             for (int grain = 1; grain <= GRAINS; grain++) {
                 partPairs(grain);
                 if (greatestPart() < least) {

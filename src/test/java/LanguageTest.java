@@ -9,7 +9,7 @@ public final class LanguageTest {
     private static final String[] BANNED = {
         "->", "::", "\\btry\\b", "\\bcatch\\b", "\\bfinally\\b", "\\bsynchronized\\b", "\\bassert\\b", "Exact\\b", "\\bSystem\\.(?!arraycopy)",
         "\\bstatic\\s*\\{", "\\bprotected\\b", "\\bvolatile\\b", "\\bThread\\b", "\\bvar\\b", "\\bObject\\b", "\\.format\\(", "\\.hashCode\\(",
-        "\\bgetMessage\\b", "\\bdouble\\b", "\\bfloat\\b", "^package ",
+        "\\bgetMessage\\b", "\\bdouble\\b", "\\bfloat\\b", "^package ", "\\b(Integer|Long|Math)\\.[A-Z]",
     };
     private static final int MOST_CLASSES = 12;
     private static final int MOST_LINES = 60;
